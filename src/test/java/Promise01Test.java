@@ -18,6 +18,9 @@ final class Promise01Test extends Names {
         }
         freshObject();
         clockToItsEnd();
+        lastStart();
+        lateVersionIsAConflict();
+        neighboursAreApart();
         ownerIsNotTold();
         rollBackEndsAllHolds();
         versionsOfAllRowsAtOnce();
@@ -88,6 +91,77 @@ final class Promise01Test extends Names {
         r.due(62).versionTime(7, 63);
         r.due(63).peek(0, MOST);
         r.due(1).peek(0, 2);
+    }
+
+    private static void lastStart() {
+        Run r = new Run("last start", 1, 8, 3, 32);
+        for (int start = 1; start < 62; start += 2) {
+            r.writeAll(start, 0, start, 7);
+        }
+        r.beginAndPrewrite(63, 0, 5, 7);
+        r.due(OK).tick(1);
+        r.due(2).leaseLeft(63);
+        r.due(63).holder(7);
+        r.due(OK).tick(2);
+        r.due(0).leaseLeft(63);
+        r.due(OK).heartbeat(0);
+        r.due(3).leaseLeft(63);
+        r.due(PENDING).fate(63);
+        r.due(61).read(0, 7);
+        r.due(64).stamp(0);
+    }
+
+    /** The latest version that can still meet a prewrite: one transaction has not stamped. */
+    private static void lateVersionIsAConflict() {
+        Run r = new Run("late version", 2, 2, 3, 32);
+        r.due(1).begin(0);
+        r.due(OK).put(0, 0, 9);
+        for (int start = 2; start < 61; start += 2) {
+            r.writeAll(start, 1, start, 1);
+        }
+        r.writeAll(62, 1, 62, 0);
+        r.due(63).versionTime(0, MOST);
+        r.same(CONFLICT).prewrite(0, 0);
+    }
+
+    private static void neighboursAreApart() {
+        Run r = new Run("neighbours", 8, 8, 3, 8);
+        for (int client = 0; client < 8; client++) {
+            r.due(client + 1).begin(client);
+            r.due(OK).put(client, client, 10 + client);
+            r.due(OK).put(client, 7 - client, 20 + client);
+        }
+        for (int client = 0; client < 8; client++) {
+            for (int row = 0; row < 8; row++) {
+                boolean high = row == 7 - client;
+                boolean low = row == client;
+                r.due(high || low ? ST_PUT : ST_NONE).stage(client, row);
+                r.due(high ? 20 + client : low ? 10 + client : NOT_PUT).value(client, row);
+            }
+        }
+        // Rows 0 and 7 of clients side by side: one commits, and its neighbour has only put.
+        for (int client = 7; client > 3; client--) {
+            r.due(OK).prewrite(client, client);
+            r.due(OK).prewrite(client, 7 - client);
+            r.due(16 - client).stamp(client);
+            r.due(OK).commit(client, client);
+            r.due(OK).commit(client, 7 - client);
+            r.due(PH_IDLE).phase(client);
+            r.due(10 + client).peek(client, MOST);
+            r.due(20 + client).peek(7 - client, MOST);
+        }
+        for (int client = 0; client < 4; client++) {
+            r.due(PH_BUFFERING).phase(client);
+            r.due(ST_PUT).stage(client, client);
+            r.same(CONFLICT).prewrite(client, client);
+        }
+        Run n = new Run("next client's row 0", 2, 8, 3, 8);
+        n.due(1).begin(1);
+        n.due(OK).put(1, 0, 5);
+        n.writeAll(2, 0, 6, 7);
+        n.due(PH_IDLE).phase(0);
+        n.due(ST_PUT).stage(1, 0);
+        n.due(ABSENT).versionTime(0, MOST);
     }
 
     private static void ownerIsNotTold() {
