@@ -93,7 +93,7 @@ final class Promise08Test extends Names {
         r.due(4).value(0, 0);
         r.due(3).peek(2, 2);
         r.due(2).fate(1);
-        // The begins are still counted: four have been, four are left.
+        // The begins are still counted: three have been, five are left.
         for (int start = 5; start <= 9; start++) {
             r.due(start).begin(1);
             r.due(OK).abandon(1);
