@@ -1,5 +1,7 @@
-/** The constants under their short names, for the tests that extend this. */
+/** The constants under their short names, and the ends of int, for the tests that extend this. */
 abstract class Names {
+    static final int LEAST = Integer.MIN_VALUE;
+    static final int MOST = Integer.MAX_VALUE;
     static final int OK = PrimaryLockTxn.OK;
     static final int ABSENT = PrimaryLockTxn.ABSENT;
     static final int BAD = PrimaryLockTxn.BAD;

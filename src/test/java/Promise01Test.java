@@ -1,8 +1,5 @@
 /** Promise 1: the constructor, the start, and the words used. */
 final class Promise01Test extends Names {
-    private static final int LEAST = Integer.MIN_VALUE;
-    private static final int MOST = Integer.MAX_VALUE;
-
     public static void main(String[] args) {
         for (int[] asked : new int[][] {{LEAST, 1}, {-1, 1}, {0, 1}, {1, 1}, {2, 2}, {7, 7}, {8, 8}, {9, 8}, {MOST, 8}}) {
             clientsAre(asked[0], asked[1]);

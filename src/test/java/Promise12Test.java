@@ -1,8 +1,5 @@
 /** Promise 12: peek and versionTime. */
 final class Promise12Test extends Names {
-    private static final int LEAST = Integer.MIN_VALUE;
-    private static final int MOST = Integer.MAX_VALUE;
-
     public static void main(String[] args) {
         rowsOutOfRange();
         edgesOfTheTime();

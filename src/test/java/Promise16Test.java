@@ -1,8 +1,5 @@
 /** Promise 16: look. */
 final class Promise16Test extends Names {
-    private static final int LEAST = Integer.MIN_VALUE;
-    private static final int MOST = Integer.MAX_VALUE;
-
     public static void main(String[] args) {
         wrongInputs();
         rowIsIgnored();
