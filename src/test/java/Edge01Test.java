@@ -1,4 +1,4 @@
-/** The edges that promise 1 names; each run bears the words that it tests. */
+/** The edges that promise 1 names; each run is named after the words or the case that it tests. */
 final class Edge01Test extends Names {
     private static final int[] SIZES = {LEAST, LEAST + 1, -1, 0, 1, 2, 3, 7, 8, 9, 31, 32, 33, 99, 100, 101, MOST - 1, MOST};
 

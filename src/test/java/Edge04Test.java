@@ -1,4 +1,4 @@
-/** The edges that promise 4 (prewrite) names; each run bears the words that it tests. */
+/** The edges that promise 4 (prewrite) names; each run is named after the words or the case that it tests. */
 final class Edge04Test extends Names {
     public static void main(String[] args) {
         clientOrRowOutOfRange();

@@ -1,4 +1,4 @@
-/** The edges that promise 6 (commit) names; each run bears the words that it tests. */
+/** The edges that promise 6 (commit) names; each run is named after the words or the case that it tests. */
 final class Edge06Test extends Names {
     public static void main(String[] args) {
         clientOrRowOutOfRange();

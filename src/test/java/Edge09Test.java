@@ -1,4 +1,4 @@
-/** The edges that promise 9 (crash) names; each run bears the words that it tests. */
+/** The edges that promise 9 (crash) names; each run is named after the words or the case that it tests. */
 final class Edge09Test extends Names {
     public static void main(String[] args) {
         clientOutOfRange();

@@ -1,4 +1,4 @@
-/** The edges that promise 12 (peek and versionTime) names; each run bears the words that it tests. */
+/** The edges that promise 12 (peek and versionTime) names; each run is named after the words or the case that it tests. */
 final class Edge12Test extends Names {
     private static final int[] BELOW = {LEAST, LEAST + 1, -65, -64, -2, -1, 0, 1};
     private static final int[] ABOVE = {65, 66, 127, 128, 129, 519, 520, 65536, MOST - 1, MOST};

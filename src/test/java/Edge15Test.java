@@ -1,4 +1,4 @@
-/** The edges that promise 15 (fate) names; each run bears the words that it tests. */
+/** The edges that promise 15 (fate) names; each run is named after the words or the case that it tests. */
 final class Edge15Test extends Names {
     private static final int[] FAR = {LEAST, LEAST + 1, -65, -64, -1, 0, 64, 65, 66, 128, 65536, 65537, MOST - 1, MOST};
 

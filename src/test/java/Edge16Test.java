@@ -1,4 +1,4 @@
-/** The edges that promise 16 (look) names; each run bears the words that it tests. */
+/** The edges that promise 16 (look) names; each run is named after the words or the case that it tests. */
 final class Edge16Test extends Names {
     private static final int[] NO_WHAT = {LEAST, LEAST + 1, -2, -1, 6, 7, 256, 65536, MOST - 1, MOST};
 
