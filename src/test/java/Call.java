@@ -10,6 +10,10 @@ final class Call {
         this.args = args;
     }
 
+    String name() {
+        return name;
+    }
+
     int on(Face x) {
         switch (name) {
             case "begin": return x.begin(args[0]);
