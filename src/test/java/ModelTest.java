@@ -10,7 +10,7 @@ final class ModelTest {
     private static final int TAIL = 40;
     private static final int[] ODD = {-1, 0, 8, 9, 64, 65, Integer.MIN_VALUE, Integer.MAX_VALUE};
     /** More begins, puts and prewrites than crashes, so that many runs come to a commit. */
-    private static final String MIX = "bbbpppppppwwwwwwwwwwssssccccccccchhatttrrrrrrx";
+    private static final String MIX = "bbbpppppppwwwwwwwwwwssssccccccccchhatttrrrrrrxkvolfq";
 
     private final Random random;
     private final Face program;
@@ -46,25 +46,35 @@ final class ModelTest {
     }
 
     private int size(int most) {
-        return random.nextInt(20) == 0 ? ODD[random.nextInt(ODD.length)] : 1 + random.nextInt(most);
+        return oddOr(20, 1 + random.nextInt(most));
     }
 
     private int upTo(int bound) {
-        if (random.nextInt(60) == 0) {
-            return ODD[random.nextInt(ODD.length)];
+        return oddOr(60, random.nextInt(Math.min(8, Math.max(1, bound))));
+    }
+
+    /** What a call takes beside client and row: the value, the number of ticks, what to look at, or a time. */
+    private int third(char op) {
+        switch (op) {
+            case 'p': return oddOr(8, random.nextInt(10003) - 2);
+            case 't': return oddOr(10, 1 + random.nextInt(3));
+            case 'q': return oddOr(10, random.nextInt(6));
+            default: return oddOr(4, random.nextInt(66));
         }
-        return random.nextInt(Math.min(8, Math.max(1, bound)));
+    }
+
+    private int oddOr(int oneIn, int plain) {
+        return random.nextInt(oneIn) == 0 ? ODD[random.nextInt(ODD.length)] : plain;
     }
 
     private boolean oneCall(boolean survey) {
         char op = MIX.charAt(random.nextInt(MIX.length()));
         int client = upTo(clients);
         int row = upTo(Math.max(2, rows));
-        int value = random.nextInt(8) == 0 ? ODD[random.nextInt(ODD.length)] : random.nextInt(10003) - 2;
-        int n = random.nextInt(10) == 0 ? ODD[random.nextInt(ODD.length)] : 1 + random.nextInt(3);
-        int got = call(program, op, client, row, value, n);
-        int want = call(model, op, client, row, value, n);
-        last.add(op + "(" + client + ", " + row + ", " + value + ", " + n + ")=" + got);
+        int third = third(op);
+        int got = call(program, op, client, row, third);
+        int want = call(model, op, client, row, third);
+        last.add(op + "(" + client + ", " + row + ", " + third + ")=" + got);
         if (last.size() > TAIL) {
             last.remove();
         }
@@ -79,17 +89,23 @@ final class ModelTest {
         return true;
     }
 
-    private static int call(Face x, char op, int client, int row, int value, int n) {
+    private static int call(Face x, char op, int client, int row, int third) {
         switch (op) {
             case 'b': return x.begin(client);
-            case 'p': return x.put(client, row, value);
+            case 'p': return x.put(client, row, third);
             case 'w': return x.prewrite(client, row);
             case 's': return x.stamp(client);
             case 'c': return x.commit(client, row);
             case 'h': return x.heartbeat(client);
             case 'a': return x.abandon(client);
-            case 't': return x.tick(n);
+            case 't': return x.tick(third);
             case 'r': return x.read(client, row);
+            case 'k': return x.peek(row, third);
+            case 'v': return x.versionTime(row, third);
+            case 'o': return x.holder(row);
+            case 'l': return x.leaseLeft(third);
+            case 'f': return x.fate(third);
+            case 'q': return x.look(client, third, row);
             default: return x.crash(client);
         }
     }
